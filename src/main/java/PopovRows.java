@@ -13,6 +13,8 @@ public final class PopovRows {
     private static final int MOST_STATES = 5;
     private static final int MOST_BYTES = 150;
     private static final int MOST_ORDER = 7;
+    // The row (x^7, 0) of a Pade approximant has the greatest degree that a form begins with.
+    private static final int TOP_POWER = MOST_ORDER;
     private static final int MOST_FACTOR_POWER = 24;
     private static final int MOST_DET_POWER = 18;
     // Each step lowers the lead of a row, so some 120 steps are the most there can be.
@@ -160,7 +162,8 @@ public final class PopovRows {
         if (!isRowBeside(i, set) || !now.hasColumn(c) || !isWithin(k, 0, MOST_DEGREE)) {
             return counted(BAD);
         }
-        popov.divide(now, i, set);
+        popov.buildFrom(now, set);
+        popov.divide(now, i);
         return popov.left.at(0, c, k);
     }
 
@@ -168,7 +171,8 @@ public final class PopovRows {
         if (!isRowBeside(i, set)) {
             return counted(BAD);
         }
-        popov.divide(now, i, set);
+        popov.buildFrom(now, set);
+        popov.divide(now, i);
         return popov.isDivided() ? 1 : 0;
     }
 
@@ -176,7 +180,8 @@ public final class PopovRows {
         if (!isRowBeside(i, set) || !isInSet(j, set) || !isWithin(k, 0, MOST_FACTOR_POWER)) {
             return counted(BAD);
         }
-        popov.divide(now, i, set);
+        popov.buildFrom(now, set);
+        popov.divide(now, i);
         if (!popov.isDivided() || popov.list.count < Integer.bitCount(set)) {
             return counted(NO);
         }
@@ -308,7 +313,7 @@ public final class PopovRows {
     }
 
     private static int modulo(int v, int p) {
-        return p < 2 ? 0 : Math.floorMod(v, p);
+        return p == 0 ? 0 : Math.floorMod(v, p);
     }
 
     private static int inverse(int v, int p) {
@@ -318,6 +323,14 @@ public final class PopovRows {
             }
         }
         return 1;
+    }
+
+    private static int powerAt(int place) {
+        return place == NONE ? NONE : place / MOST_COLUMNS;
+    }
+
+    private static int columnAt(int place) {
+        return place == NONE ? NONE : place % MOST_COLUMNS;
     }
 
     private static long mixed(long h, int v) {
@@ -501,16 +514,14 @@ public final class PopovRows {
             return (set >> count) == 0;
         }
 
-        private boolean hasPlace(int i, int c, int k) {
-            return i >= 0 && i < room && c >= 0 && c < width && k >= 0 && k < powers;
-        }
-
         int at(int i, int c, int k) {
-            return hasPlace(i, c, k) ? numbers[(i * width + c) * powers + k] : 0;
+            boolean known = i >= 0 && i < room && c >= 0 && c < width && k >= 0 && k < powers;
+            return known ? numbers[(i * width + c) * powers + k] : 0;
         }
 
         void put(int i, int c, int k, int v) {
-            if (hasPlace(i, c, k)) {
+            boolean known = i >= 0 && i < room && c >= 0 && c < width && k >= 0 && k < powers;
+            if (known) {
                 numbers[(i * width + c) * powers + k] = modulo(v, p);
             }
         }
@@ -583,29 +594,32 @@ public final class PopovRows {
             }
         }
 
-        int degreeOf(int i) {
-            for (int k = Math.min(powers - 1, MOST_ORDER); k >= 0; k--) {
-                for (int c = 0; c < columns; c++) {
+        /**
+         * The place of the lead of a row (NONE if the row is zero). Places are numbered by power,
+         * then by column, so that a row with a smaller place stands before one with a greater.
+         */
+        int placeOf(int i) {
+            for (int k = TOP_POWER; k >= 0; k--) {
+                for (int c = columns - 1; c >= 0; c--) {
                     if (at(i, c, k) != 0) {
-                        return k;
+                        return k * MOST_COLUMNS + c;
                     }
                 }
             }
             return NONE;
         }
 
+        int degreeOf(int i) {
+            return powerAt(placeOf(i));
+        }
+
         int pivotOf(int i) {
-            int degree = degreeOf(i);
-            for (int c = columns - 1; c >= 0; c--) {
-                if (at(i, c, degree) != 0) {
-                    return c;
-                }
-            }
-            return NONE;
+            return columnAt(placeOf(i));
         }
 
         int leadOf(int i) {
-            return at(i, pivotOf(i), degreeOf(i));
+            int place = placeOf(i);
+            return at(i, columnAt(place), powerAt(place));
         }
 
         boolean hasEntriesOf(Rows other) {
@@ -625,54 +639,44 @@ public final class PopovRows {
         }
     }
 
-    /** The degrees and pivots of some rows at one moment. */
+    /** The leads of some rows at one moment. */
     private static final class Shape {
-        final int[] degrees = new int[MOST_ROWS];
-        final int[] pivots = new int[MOST_ROWS];
+        private final int[] places = new int[MOST_ROWS];
         int count;
 
         void measure(Rows rows) {
-            count = Math.min(rows.count, MOST_ROWS);
-            for (int i = 0; i < count && i < degrees.length && i < pivots.length; i++) {
-                degrees[i] = rows.degreeOf(i);
-                pivots[i] = rows.pivotOf(i);
+            count = Math.min(rows.count, places.length);
+            for (int i = 0; i < count && i < places.length; i++) {
+                places[i] = rows.placeOf(i);
             }
         }
 
-        int degreeAt(int i) {
-            return i >= 0 && i < degrees.length ? degrees[i] : NONE;
-        }
-
-        int pivotAt(int i) {
-            return i >= 0 && i < pivots.length ? pivots[i] : NONE;
+        int placeAt(int i) {
+            return i >= 0 && i < places.length ? places[i] : NONE;
         }
 
         boolean canStep(int i, int j) {
-            return i != j && pivotAt(i) != NONE && pivotAt(i) == pivotAt(j)
-                    && degreeAt(j) <= degreeAt(i);
+            int place = placeAt(i);
+            int other = placeAt(j);
+            return i != j && place != NONE && other != NONE && other <= place
+                    && columnAt(other) == columnAt(place);
         }
 
-        /** The row other than 'but' whose lead divides x^k in column c. */
+        /** The row other than 'but' whose lead divides x^k in column c; NONE if there is none. */
         int rowFor(int c, int k, int but) {
             for (int j = 0; j < count; j++) {
-                if (j != but && pivotAt(j) == c && degreeAt(j) <= k) {
+                int place = placeAt(j);
+                if (j != but && columnAt(place) == c && powerAt(place) <= k) {
                     return j;
                 }
             }
             return NONE;
         }
-
-        boolean isBefore(int i, int j) {
-            if (degreeAt(i) != degreeAt(j)) {
-                return degreeAt(i) < degreeAt(j);
-            }
-            return pivotAt(i) < pivotAt(j);
-        }
     }
 
     /** The next step for some rows. */
     private static final class Step {
-        final Shape shape = new Shape();
+        private final Shape shape = new Shape();
         int target;
         int source;
         int number;
@@ -683,19 +687,15 @@ public final class PopovRows {
             for (int i = 0; i < shape.count; i++) {
                 for (int j = 0; j < shape.count; j++) {
                     if (shape.canStep(i, j)) {
-                        set(rows, i, j);
+                        target = i;
+                        source = j;
+                        number = modulo(-rows.leadOf(i) * inverse(rows.leadOf(j), rows.p), rows.p);
+                        power = powerAt(shape.placeAt(i)) - powerAt(shape.placeAt(j));
                         return true;
                     }
                 }
             }
             return false;
-        }
-
-        private void set(Rows rows, int i, int j) {
-            target = i;
-            source = j;
-            number = modulo(-rows.leadOf(i) * inverse(rows.leadOf(j), rows.p), rows.p);
-            power = shape.degreeAt(i) - shape.degreeAt(j);
         }
     }
 
@@ -733,8 +733,8 @@ public final class PopovRows {
             toForm();
         }
 
-        void divide(Rows rows, int i, int set) {
-            buildFrom(rows, set);
+        /** Divides a row by the form that was built last. */
+        void divide(Rows rows, int i) {
             left.reset(rows.p, rows.columns);
             left.append();
             left.addTimes(0, rows, i, 1, 0);
@@ -784,12 +784,12 @@ public final class PopovRows {
         private void reduce(Rows target, int i, int but) {
             shape.measure(list);
             // From the greatest place down: a reduction changes only places below its own.
-            for (int k = MOST_ORDER; k >= 0; k--) {
+            for (int k = TOP_POWER; k >= 0; k--) {
                 for (int c = list.columns - 1; c >= 0; c--) {
                     int number = target.at(i, c, k);
                     int j = number == 0 ? NONE : shape.rowFor(c, k, but);
                     if (j != NONE) {
-                        target.addTimes(i, list, j, -number, k - shape.degreeAt(j));
+                        target.addTimes(i, list, j, -number, k - powerAt(shape.placeAt(j)));
                     }
                 }
             }
@@ -798,8 +798,7 @@ public final class PopovRows {
         private void sort() {
             for (int i = 0; i < list.count; i++) {
                 for (int j = i + 1; j < list.count; j++) {
-                    shape.measure(list);
-                    if (shape.isBefore(j, i)) {
+                    if (list.placeOf(j) < list.placeOf(i)) {
                         list.swap(i, j);
                     }
                 }
@@ -1034,24 +1033,22 @@ public final class PopovRows {
             for (int index = 0; index < entries.length; index++) {
                 entries[index] = 0;
             }
-            for (int c = 0; c < rowColumns; c++) {
-                boolean begun = c == 0 || accept(',');
-                if (!begun || !readEntry(c)) {
-                    return false;
-                }
-            }
-            return true;
-        }
-
-        private boolean readEntry(int c) {
-            boolean more = true;
-            for (int i = 0; i < MOST_BYTES && more; i++) {
+            int c = 0;
+            for (int i = 0; i < MOST_BYTES; i++) {
                 if (!readTerm(c)) {
                     return false;
                 }
-                more = accept('+');
+                if (!accept('+')) {
+                    c++;
+                    if (c >= rowColumns) {
+                        return true;
+                    }
+                    if (!accept(',')) {
+                        return false;
+                    }
+                }
             }
-            return true;
+            return false;
         }
 
         private boolean readTerm(int c) {
