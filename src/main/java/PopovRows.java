@@ -499,7 +499,7 @@ public final class PopovRows {
             this.room = room;
             this.width = width;
             this.powers = powers;
-            numbers = new int[room * width * powers];
+            numbers = new int[Math.max(0, room * width * powers)];
         }
 
         boolean hasRow(int i) {
@@ -542,10 +542,11 @@ public final class PopovRows {
         }
 
         void remove(int i) {
-            for (int j = i; j + 1 < count; j++) {
-                copyRow(j, j + 1);
+            if (hasRow(i)) {
+                int size = width * powers;
+                System.arraycopy(numbers, (i + 1) * size, numbers, i * size, (count - 1 - i) * size);
+                count--;
             }
-            count--;
         }
 
         void copyFrom(Rows other) {
@@ -554,14 +555,6 @@ public final class PopovRows {
             count = other.count;
             System.arraycopy(other.numbers, 0, numbers, 0,
                     Math.min(numbers.length, other.numbers.length));
-        }
-
-        private void copyRow(int to, int from) {
-            for (int c = 0; c < width; c++) {
-                for (int k = 0; k < powers; k++) {
-                    put(to, c, k, at(from, c, k));
-                }
-            }
         }
 
         void swap(int i, int j) {
