@@ -612,7 +612,6 @@ public final class ModelTest {
     }
 
     private static long seed = 1;
-    private static int wrong = 0;
     private static int cofactorsChecked = 0;
 
     private static int chance(int below) {
@@ -635,10 +634,7 @@ public final class ModelTest {
 
     private static void due(int object, String call, long got, long want) {
         if (got != want) {
-            wrong++;
-            if (wrong < 40) {
-                System.out.println("object " + object + ": " + call + " answered " + got + ", due is " + want);
-            }
+            Check.due("object " + object + ": " + call, got, want);
         }
     }
 
@@ -958,7 +954,7 @@ public final class ModelTest {
             begin(object, x, model);
             calls = 120;
         }
-        while (calls < CALLS && wrong == 0) {
+        while (calls < CALLS && Check.isGood()) {
             // On every fourth object the rows of the beginning stay, and only questions are asked.
             boolean changes = object % 4 != 0 && chance(3) == 0;
             calls += changes ? oneChange(object, x, model) : oneQuestion(object, x, model);
@@ -967,16 +963,13 @@ public final class ModelTest {
     }
 
     public static void main(String[] args) {
-        for (int object = 1; object <= OBJECTS && wrong == 0; object++) {
+        Check.begin("model");
+        for (int object = 1; object <= OBJECTS && Check.isGood(); object++) {
             run(object);
         }
         if (cofactorsChecked < 400) {
-            wrong++;
-            System.out.println("only " + cofactorsChecked + " rows had cofactors");
+            Check.fail("only " + cofactorsChecked + " rows had cofactors");
         }
-        System.out.println(wrong == 0 ? "ModelTest: all as due" : "ModelTest: " + wrong + " wrong");
-        if (wrong != 0) {
-            System.exit(1);
-        }
+        Check.finish("ModelTest");
     }
 }

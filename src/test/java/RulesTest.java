@@ -25,12 +25,9 @@ public final class RulesTest {
     private static final int MOST_FIELDS = 20;
     private static final int MOST_PARAMETERS = 7;
 
-    private static int wrong = 0;
-
     private static void holds(boolean good, String what) {
         if (!good) {
-            wrong++;
-            System.out.println(what);
+            Check.fail(what);
         }
     }
 
@@ -136,11 +133,9 @@ public final class RulesTest {
     }
 
     public static void main(String[] args) throws IOException {
+        Check.begin("rules");
         checkFace();
         checkText();
-        System.out.println(wrong == 0 ? "RulesTest: all as due" : "RulesTest: " + wrong + " wrong");
-        if (wrong != 0) {
-            System.exit(1);
-        }
+        Check.finish("RulesTest");
     }
 }
