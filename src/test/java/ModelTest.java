@@ -611,12 +611,10 @@ public final class ModelTest {
         }
     }
 
-    private static long seed = 1;
     private static int cofactorsChecked = 0;
 
     private static int chance(int below) {
-        seed = seed * 6364136223846793005L + 1442695040888963407L;
-        return (int) ((seed >>> 33) % below);
+        return Chance.below(below);
     }
 
     private static int pick(int... numbers) {
@@ -946,7 +944,7 @@ public final class ModelTest {
     }
 
     private static void run(int object) {
-        seed = 7919L * object + 17;
+        Chance.begin(7919L * object + 17);
         PopovRows x = new PopovRows();
         Model model = new Model();
         int calls = 0;
